@@ -1473,8 +1473,6 @@ public final class ShipSkins {
         private final Net net;
         private final Slope slope = new Slope();
         private final int[] onDay = new int[DAYS];
-        private final int[] from = new int[DAYS];
-        private final int[] to = new int[DAYS];
         private final int[] bottom = new int[DAYS];
         /** The least miss of the days ahead of a day, and that from a day on with Z 0 there. */
         private final int[] ahead = new int[DAYS];
@@ -1526,8 +1524,6 @@ public final class ShipSkins {
                     return ENDLESS;
                 }
                 addLogs(d);
-                from[d] = slope.least;
-                to[d] = slope.most;
                 bottom[d] = slope.bottom();
                 fromZero[d] = slope.least == 0 ? slope.value : ENDLESS;
             }
@@ -1563,15 +1559,17 @@ public final class ShipSkins {
             }
         }
 
-        /** As costs are convex, the nearest Z to a day's lowest bottom is the lowest of the best ones. */
+        /**
+         * As costs are convex, the Z nearest to a day's lowest bottom is the lowest of the best ones that the law
+         * leaves; days behind can go on from it, for they can from the bottom and from some Z that the law leaves.
+         */
         private void followBottoms() {
             curve[0] = bottom[0];
             for (int d = 1; d < DAYS; d++) {
                 int z = bottom[d];
                 if (!net.cut[d]) {
-                    int least = Math.max(from[d], curve[d - 1] + net.low[d - 1]);
-                    int most = Math.min(to[d], curve[d - 1] + net.high[d - 1]);
-                    z = Math.min(Math.max(z, least), most);
+                    z = Math.max(z, curve[d - 1] + net.low[d - 1]);
+                    z = Math.min(z, curve[d - 1] + net.high[d - 1]);
                 }
                 curve[d] = z;
             }

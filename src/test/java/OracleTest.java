@@ -42,6 +42,10 @@ public final class OracleTest {
         for (int i = 0; i < 30 * scale; i++) new OracleTest(seed * 2000003 + i).voyage();
         for (int i = 0; i < 40 * scale; i++) new OracleTest(seed * 3000017 + i).dispute();
         for (int i = 0; i < 40 * scale; i++) new OracleTest(seed * 4000037 + i).misses();
+        for (int i = 0; i < 60 * scale; i++) new OracleTest(seed * 5000011 + i).edges();
+        for (int i = 0; i < 20 * scale; i++) new OracleTest(seed * 6000011 + i).crowd();
+        new OracleTest(seed).tangle(PromisesTest.OF_2000);
+        new OracleTest(seed).tangle(PromisesTest.OF_2001);
         System.out.println(Pair.compared + " answers compared, " + Pair.wrong + " not as due");
         if (Pair.wrong != 0) System.exit(1);
     }
@@ -224,6 +228,58 @@ public final class OracleTest {
             ask("hidden", 0, known, once(3) ? any(0, 30) : any(0, 20000));
             for (int i = -1; i < 3; i++) ask("hid", i);
             if (once(2)) ask("leave", any(0, 15), any(0, 1));
+        }
+    }
+
+    /** The first and the last days, the least and the greatest Z. */
+    private void edges() {
+        int[] days = {0, 1, 2, 3, 60, 116, 117, 118, 119};
+        int[] zs = {0, 0, 1, 5, 10, 100, 500, 999, 1000};
+        ask("ship", 0);
+        ask("table", 0, 0, any(-12, 3), any(3, 12));
+        for (int i = 0; i < any(0, 3); i++) ask("cleaned", 0, days[any(0, 8)], zs[any(0, 8)]);
+        for (int i = 0; i < any(1, 12); i++) {
+            int a = zs[any(0, 8)];
+            int b = zs[any(0, 8)];
+            ask("look", 0, days[any(0, 8)], Math.min(a, b), once(2) ? Math.min(a, b) : Math.max(a, b), any(1, 50), 0);
+        }
+        ask("miss", 0, 0);
+        for (int d = 0; d < 120; d++) ask("curve", d);
+        ask("hidden", 0, 0, any(0, 40));
+        ask("hid", 0);
+        ask("hid", 1);
+        ask("span", 0, days[any(0, 8)], 0, any(0, 1));
+        ask("quarrels", 0, 0, -1);
+        ask("right", 0, 0);
+    }
+
+    /** As many logs as there can be near one another, so that costs have as many turns as they can. */
+    private void crowd() {
+        ask("ship", 0);
+        ask("table", 0, 0, any(-3, 0), any(0, 3));
+        int day = any(0, 110);
+        for (int i = 0; i < 24; i++) {
+            int low = any(200, 500);
+            ask("look", 0, day + any(0, once(2) ? 0 : 9), low, low + any(0, 300), any(1, 100), 0);
+        }
+        ask("miss", 0, 0);
+        for (int d = 0; d < 120; d++) ask("curve", d);
+        ask("hidden", 0, 0, any(0, 4000));
+        ask("hid", 0);
+        ask("hid", 1);
+    }
+
+    /** Looks whose proof is as long as one can be, or a byte longer. */
+    private void tangle(int[] looks) {
+        ask("ship", 0);
+        for (int d = 10; d < 120; d += 10) ask("cleaned", 0, d, 1000);
+        ask("table", 0, 0, -100, 100);
+        for (int i = 0; i < looks.length; i += 4) {
+            ask("look", 0, looks[i], looks[i + 1], looks[i + 2], looks[i + 3], i / 4 < 12 ? 0 : 1);
+        }
+        for (int known = 0; known < 2; known++) {
+            int size = (int) ask("prove", 0, known);
+            for (int i = 0; i < 300; i++) ask("proof", i * Math.max(1, size / 300));
         }
     }
 }

@@ -417,6 +417,12 @@ public final class PromisesTest {
         x.leg(2, 0, 0, 30, 20, 100);
         int[] most = {9000, 120, 30, 9000, 18150};
         for (int what = 0; what <= 4; what++) due("the most", x.share(2, 0, 1000, what), most[what]);
+        ShipSkins y = new ShipSkins();
+        y.ship(11);
+        y.leg(0, 0, 0, 3, 0, 0);
+        due("99 through 100", y.share(0, 0, 0, 4), 0);
+        due("99 through 100", y.share(0, 0, 0, 0), 0);
+        due("108 through 100", y.share(0, 0, 1, 4), 1);
     }
 
     private static void span() {
@@ -458,6 +464,15 @@ public final class PromisesTest {
         due("no curve: it can't rise by 9 a day", y.span(0, 0, 0, 0), -1);
         y.cleaned(0, 60, 1000);
         due("a curve again", y.span(0, 59, 0, 0), 59 * 9);
+        ShipSkins z = resting();
+        z.cleaned(0, 0, 5);
+        z.look(0, 0, 6, 9, 1, 0);
+        due("none by day 0 alone", z.span(0, 1, 0, 0), -1);
+        z.cleaned(0, 119, 5);
+        z.leave(0, 1);
+        z.look(0, 119, 6, 9, 1, 1);
+        due("some", z.span(0, 1, 0, 0), 0);
+        due("none by day 119 alone", z.span(0, 1, 1, 0), -1);
     }
 
     private static void why() {
@@ -668,26 +683,35 @@ public final class PromisesTest {
         tooLong();
     }
 
-    private static final int[] TANGLE = {
-        20, 520, 660, 3, 21, 340, 400, 4, 42, 460, 500, 4, 40, 480, 740, 3, 21, 40, 220, 1, 22, 740, 740, 1,
-        20, 380, 440, 2, 21, 0, 300, 4, 1, 760, 980, 1, 1, 260, 280, 4, 42, 580, 1000, 4, 2, 420, 460, 3,
-        20, 0, 320, 3, 1, 320, 340, 2, 42, 320, 320, 1, 41, 80, 120, 4, 40, 100, 120, 1, 22, 580, 840, 1,
-        40, 180, 460, 2, 41, 220, 300, 4, 2, 500, 600, 1, 21, 420, 520, 4, 2, 600, 860, 4, 42, 520, 540, 4};
+    static final int[] OF_2000 = {
+        22, 700, 720, 2, 0, 520, 680, 1, 22, 620, 660, 4, 2, 560, 560, 2, 1, 500, 680, 4, 42, 0, 180, 4,
+        20, 500, 620, 1, 2, 600, 620, 3, 22, 620, 1000, 1, 42, 260, 840, 4, 2, 140, 500, 3, 20, 100, 420, 1,
+        41, 620, 960, 1, 2, 720, 880, 3, 22, 140, 600, 4, 22, 780, 1000, 4, 41, 0, 160, 2, 22, 180, 400, 2,
+        42, 320, 420, 1, 20, 700, 1000, 2, 0, 600, 640, 3, 20, 680, 1000, 2, 20, 360, 560, 2, 0, 700, 1000, 4};
+    static final int[] OF_2001 = {
+        0, 520, 680, 1, 42, 520, 620, 2, 22, 620, 660, 4, 40, 340, 760, 4, 0, 620, 1000, 3, 40, 160, 260, 3,
+        0, 260, 680, 3, 2, 600, 620, 3, 22, 620, 1000, 1, 2, 560, 560, 2, 41, 100, 300, 2, 20, 100, 420, 1,
+        2, 120, 520, 3, 1, 780, 1000, 2, 20, 500, 620, 1, 22, 140, 600, 4, 22, 780, 1000, 3, 22, 120, 360, 2,
+        41, 760, 1000, 2, 20, 360, 560, 2, 1, 120, 440, 1, 20, 700, 1000, 2, 20, 680, 1000, 2, 0, 700, 1000, 4};
 
-    /** Three tangles that have nothing to do with one another: proofs of each stand within those of the others. */
-    private static void tooLong() {
+    /** Three tangles of looks that have nothing to do with one another: the proof of each stands within the others'. */
+    private static ShipSkins tangled(int[] looks) {
         ShipSkins x = resting();
         for (int d = 10; d < 120; d += 10) x.cleaned(0, d, 1000);
         x.table(0, 0, -100, 100);
-        for (int i = 0; i < TANGLE.length; i += 4) {
-            x.look(0, TANGLE[i], TANGLE[i + 1], TANGLE[i + 2], TANGLE[i + 3], i / 4 < 20 ? 0 : 1);
+        for (int i = 0; i < looks.length; i += 4) {
+            x.look(0, looks[i], looks[i + 1], looks[i + 2], looks[i + 3], i / 4 < 12 ? 0 : 1);
         }
-        int size = x.prove(0, 0);
-        due("twenty of them fit", size > 100 && size <= 2000 ? 1 : 0, 1);
-        String latest = proofOf(x);
-        due("all of them don't", x.prove(0, 1), -1);
-        due("the latest's bytes stay", x.count(6), size);
-        same("the latest", proofOf(x), latest);
+        return x;
+    }
+
+    private static void tooLong() {
+        due("a proof of 2000 bytes", tangled(OF_2000).prove(0, 1), 2000);
+        ShipSkins x = tangled(OF_2001);
+        x.prove(0, 0);
+        same("the proof of twelve of them", proofOf(x), "(1[7,9;][3,5;7,9;])");
+        due("a proof of 2001 bytes", x.prove(0, 1), -1);
+        same("the latest stays", proofOf(x), "(1[7,9;][3,5;7,9;])");
     }
 
     private static void proof() {
@@ -806,11 +830,21 @@ public final class PromisesTest {
         return text.toString();
     }
 
+    private static String nestBehind(int deep) {
+        StringBuilder text = new StringBuilder();
+        for (int i = 0; i < deep; i++) text.append('(').append(i).append("[]");
+        text.append("[]");
+        for (int i = 0; i < deep; i++) text.append(")");
+        return text.toString();
+    }
+
     private static void checkDeep() {
         ShipSkins x = resting();
         for (int i = 0; i < 24; i++) x.look(0, 0, 0, 9, 1, 0);
         checked(x, nest(23), 24, -1);
         checked(x, nest(24), 24, nest(24).indexOf('['));
+        checked(x, nestBehind(23), 24, -1);
+        checked(x, nestBehind(24), 24, nestBehind(24).lastIndexOf('[') - 2);
         checked(x, "[23;22;21;20;19;18;17;16;15;14;13;12;11;10;9;8;7;6;5;4;3;2;1;0;]", 24, -1);
         checked(x, "[23;22;21;20;19;18;17;16;15;14;13;12;11;10;9;8;7;6;5;4;3;2;1;0;0;]", 24, 63);
         checked(x, "[24;]", 24, 1);
@@ -890,6 +924,16 @@ public final class PromisesTest {
         due("ahead of it", z.curve(19), 1000);
         due("as near as can be", z.curve(20), 30);
         due("first as rows", z.curve(0), 810);
+        ShipSkins last = resting();
+        last.cleaned(0, 119, 30);
+        last.look(0, 119, 50, 60, 2, 0);
+        due("cleaned on the last day", last.miss(0, 0), 40);
+        due("as near as can be", last.curve(119), 30);
+        ShipSkins first = resting();
+        first.cleaned(0, 0, 30);
+        first.look(0, 0, 50, 60, 2, 0);
+        due("cleaned on the first day", first.miss(0, 0), 40);
+        due("as near as can be", first.curve(0), 30);
     }
 
     private static void curve() {
@@ -957,6 +1001,48 @@ public final class PromisesTest {
         z.table(1, 1, 100, 100);
         due("no curve by any", z.hidden(0, 0, 7), -1);
         due("the latest stays", z.hid(0), 18);
+        hiddenAtEdges();
+    }
+
+    private static void hiddenAtEdges() {
+        ShipSkins first = resting();
+        first.look(0, 0, 500, 500, 10, 0);
+        first.look(0, 1, 0, 0, 10, 0);
+        first.look(0, 50, 400, 400, 10, 5);
+        first.look(0, 51, 0, 0, 10, 5);
+        due("on day 1", first.hidden(0, 0, 1), 1);
+        due("on day 1", first.hid(0), 1);
+        due("on day 1 and another", first.hidden(0, 5, 1), 2);
+        due("on day 1 and another", first.hid(0), 1);
+        due("on day 1 and another", first.hid(1), 51);
+        ShipSkins last = resting();
+        last.table(0, 0, 5, 10);
+        last.look(0, 119, 0, 0, 100, 0);
+        due("on day 119", last.hidden(0, 0, 1), 1);
+        due("on day 119", last.hid(0), 119);
+        last.look(0, 118, 0, 0, 100, 0);
+        last.look(0, 117, 590, 590, 100, 0);
+        due("on days 118 and 119", last.hidden(0, 0, 1), 2);
+        due("on days 118 and 119", last.hid(0), 118);
+        due("on days 118 and 119", last.hid(1), 119);
+        ShipSkins told = resting();
+        told.cleaned(0, 0, 100);
+        told.look(0, 0, 150, 200, 1, 0);
+        told.look(0, 1, 0, 0, 50, 0);
+        due("day 0 is missed by 50", told.hidden(0, 0, 1), 51);
+        due("on day 1", told.hid(0), 1);
+        ShipSkins zero = resting();
+        zero.look(0, 0, 0, 0, 7, 0);
+        zero.look(0, 5, 50, 50, 7, 0);
+        zero.look(0, 6, 0, 0, 100, 0);
+        due("all are met", zero.hidden(0, 0, 1), 1);
+        zero.cleaned(0, 20, 100);
+        zero.look(0, 20, 0, 0, 5, 0);
+        zero.look(0, 29, 90, 90, 5, 0);
+        zero.look(0, 30, 0, 0, 100, 0);
+        due("all are met", zero.hidden(0, 0, 1), 2);
+        due("the first", zero.hid(0), 6);
+        due("the second", zero.hid(1), 30);
     }
 
     private static void hid() {
@@ -1148,6 +1234,11 @@ public final class PromisesTest {
         due("the sums are off by 5 and 9", x.found(), -2);
         x.alter(0, 1);
         x.alter(1, 4);
+        x.alter(0, 1);
+        x.alter(3, 4);
+        due("the sums are off by 3 and 15, as if there were a fifth log", x.found(), -2);
+        x.alter(0, 1);
+        x.alter(3, 4);
         x.leave(0, 1);
         due("leaving out alters nothing", x.found(), -1);
         x.look(0, 0, 0, 0, 1, 0);
@@ -1240,6 +1331,53 @@ public final class PromisesTest {
         x.alter(0, 1);
         due("the image is not altered", x.back(1), 0);
         due("number", x.of(0, 2), 100);
+        twoPasts();
+    }
+
+    /** What one image has, told anew in another way behind the other, must come back. */
+    private static void twoPasts() {
+        ShipSkins x = new ShipSkins();
+        x.image(0);
+        x.ship(10);
+        x.ship(20);
+        x.leg(0, 3, 2, 9, 5, 20);
+        x.leg(1, 4, 3, 0, 0, 0);
+        x.cleaned(1, 20, 5);
+        x.log(0, 3, 10, 6, 7, 8);
+        x.look(1, 10, 100, 200, 9, 10);
+        x.table(0, 3, 2, 4);
+        x.image(1);
+        x.back(0);
+        due("ships", x.count(0), 0);
+        x.ship(30);
+        x.ship(40);
+        x.leg(1, 5, 4, 7, 1, 1);
+        x.leg(0, 1, 1, 8, 0, 0);
+        x.cleaned(0, 30, 6);
+        x.look(1, 5, 300, 400, 17, 18);
+        x.log(0, 5, 20, 3, 19, 20);
+        x.leave(0, 1);
+        x.leave(1, 1);
+        x.back(0);
+        x.ship(50);
+        x.look(0, 7, 1, 2, 3, 4);
+        due("a new log is not left out", x.of(0, 6), 0);
+        due("back(1)", x.back(1), 0);
+        int[] fuelOfLeg = {8, 2, 2, 0, 12};
+        for (int what = 0; what <= 4; what++) due("share " + what, x.share(0, 3, 0, what), fuelOfLeg[what]);
+        due("at rest ahead of its leg", x.share(0, 2, 0, 4), 0);
+        due("another ship's leg", x.share(1, 5, 0, 4), 0);
+        due("law by its sea", x.law(1, 4, 0), 2);
+        due("law ahead of it", x.law(1, 3, 0), 0);
+        due("cleaned", x.law(1, 19, 0), -1000);
+        due("cleaned", x.span(1, 20, 0, 1), 5);
+        due("not cleaned", x.law(0, 29, 0), -10);
+        int[] log = {0, 3, 0, 5, 7, 8, 0};
+        int[] look = {1, 10, 100, 200, 9, 10, 0};
+        for (int what = 0; what <= 6; what++) {
+            due("log, " + what, x.of(0, what), log[what]);
+            due("look, " + what, x.of(1, what), look[what]);
+        }
     }
 
     private static void count() {
