@@ -1243,6 +1243,11 @@ public final class PromisesTest {
         due("leaving out alters nothing", x.found(), -1);
         x.look(0, 0, 0, 0, 1, 0);
         due("there are more, though sums are as they were", x.found(), -2);
+        ShipSkins full = resting();
+        for (int i = 0; i < 24; i++) full.look(0, 0, 1000, 1000, 1, 0);
+        due("24 are sealed", full.seal(), 24);
+        full.alter(23, 255);
+        due("the last of 24", full.found(), 23);
     }
 
     private static void image() {
