@@ -305,12 +305,15 @@ public final class ShipSkins {
         return n;
     }
 
+    /** Promise 25 empties the tape without a condition: also if there was nothing to check it by. */
     public int check(int ship, int known, int w) {
-        if (!isShip(ship) || !isDay(known)) {
-            return NONE;
+        int answer = NONE;
+        if (isShip(ship) && isDay(known)) {
+            graph.load(ship, known);
+            answer = tape.holdsProof(w) ? 1 : 0;
         }
-        graph.load(ship, known);
-        return tape.holdsProof(w) ? 1 : 0;
+        tape.length = 0;
+        return answer;
     }
 
     public int fault() {
@@ -1206,9 +1209,7 @@ public final class ShipSkins {
             at = 0;
             faultPlace = NONE;
             step();
-            boolean holds = readProof(graph.sound, 0, 1) && expect(END);
-            length = 0;
-            return holds;
+            return readProof(graph.sound, 0, 1) && expect(END);
         }
 
         private void step() {

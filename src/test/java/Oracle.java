@@ -633,9 +633,9 @@ final class Oracle {
     }
 
     int check(int ship, int known, int w) {
-        if (cannotAsk(ship, known)) return NONE;
         tokenize();
         tape.clear();
+        if (cannotAsk(ship, known)) return NONE;
         try {
             readProof(0, sound(ship, known), w, 1);
             need(tokens.get(token).equals("end"));

@@ -863,18 +863,29 @@ public final class PromisesTest {
         put(x, "[0,1;]");
         due("1 is not known on day 6", x.check(0, 6, 5), 0);
         due("fault", x.fault(), 3);
+        unread(x, "known 120", 0, 120);
+        unread(x, "known -1", 0, -1);
+        unread(x, "ship 2", 2, 0);
+        unread(x, "ship -1", -1, 0);
         put(x, "[0,1;]");
-        due("known 120", x.check(0, 120, 5), -1);
-        due("known -1", x.check(0, -1, 5), -1);
-        due("ship 2", x.check(2, 0, 5), -1);
-        due("the tape was not read", x.count(5), 6);
-        due("the fault is the latest that read", x.fault(), 3);
         due("1 is known on day 7", x.check(0, 7, 5), 1);
         put(x, "[0,2;]");
         due("2 is another ship's", x.check(0, 7, 99), 0);
         x.leave(1, 1);
         put(x, "[]");
         due("1 is left out", x.check(0, 7, 5), 1);
+    }
+
+    /** A check that can't be asked empties the tape as any other, but FAULT is that of the latest that read. */
+    private static void unread(ShipSkins x, String what, int ship, int known) {
+        put(x, "[0,1;]");
+        int fault = x.fault();
+        due(what, x.check(ship, known, 5), -1);
+        due(what + ": the tape is empty", x.count(5), 0);
+        due(what + ": it has no byte", x.end(1), -1);
+        due(what + ": the next bytes are its first", x.feed(0, 0, 0, 0, 0), 20);
+        due(what + ": the fault stays", x.fault(), fault);
+        x.end(0);
     }
 
     private static void fault() {
