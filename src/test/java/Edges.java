@@ -96,7 +96,10 @@ abstract class Edges {
     static void asks(String what, Supplier<ShipSkins> made, Open call, int from, int to, long[] ends) {
         due(what + " " + from, call.on(made.get(), from), ends[0]);
         due(what + " " + to, call.on(made.get(), to), ends[1]);
-        for (int number : outside(from, to)) barren(what + " " + number, x -> call.on(x, number), -1);
+        for (int number : outside(from, to)) {
+            due(what + " " + number, call.on(made.get(), number), -1);
+            barren(what + " " + number, x -> call.on(x, number), -1);
+        }
     }
 
     static long[] ends(long atFrom, long atTo) {

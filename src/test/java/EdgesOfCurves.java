@@ -536,4 +536,153 @@ final class EdgesOfCurves extends Edges {
         y.terms(0, 100000);
         due("seven fees", y.judge(0, 127, 0, 119, 0), 700000);
     }
+
+
+    static void p00_curvesKeepToTheLaw() {
+        ShipSkins x = resting();
+        x.look(0, 0, 0, 0, 100, 0);
+        x.look(0, 10, 1000, 1000, 1, 0);
+        due("10 a day at most", x.miss(0, 0), 900);
+        due("day 5", x.curve(5), 50);
+        due("day 10", x.curve(10), 100);
+        due("day 11", x.curve(11), 100);
+    }
+
+    static void p00_curvesAreFrom0To1000() {
+        ShipSkins x = resting();
+        x.table(0, 0, -5, 5);
+        x.cleaned(0, 50, 7);
+        x.look(0, 49, 0, 0, 1, 0);
+        x.look(0, 50, 0, 0, 1, 0);
+        due("nothing is missed", x.miss(0, 0), 0);
+        for (int day = 0; day < 120; day++) due("day " + day, x.curve(day), 0);
+        ShipSkins y = resting();
+        y.table(0, 0, -5, 5);
+        y.cleaned(0, 50, 1000);
+        y.look(0, 49, 1000, 1000, 1, 0);
+        y.look(0, 50, 1000, 1000, 1, 0);
+        due("nothing is missed", y.miss(0, 0), 0);
+        due("1000 ahead of a day cleaned on", y.curve(49), 1000);
+        due("1000 on it", y.curve(50), 1000);
+    }
+
+    static void p00_hiddenWithTwoOfTheFirstAndTheLastDays() {
+        int[][] pairs = {{1, 2}, {1, 119}, {118, 119}};
+        for (int[] pair : pairs) {
+            ShipSkins x = resting();
+            x.table(0, 0, 5, 10);
+            if (pair[0] == 1) x.look(0, 0, 400, 400, 100, 0);
+            if (pair[1] == 119) x.look(0, pair[0] == 1 ? 118 : 117, 590, 590, 100, 0);
+            for (int day : pair) x.look(0, day, 0, 0, 100, 0);
+            hides("days " + pair[0] + " and " + pair[1], x, 1, 2, pair);
+        }
+    }
+
+    static void p00_hiddenWithNothingLeft() {
+        ShipSkins one = drops(1);
+        one.look(0, 11, 1, 1, 3, 0);
+        hides("day 11 is 0 and not 1", one, 0, 3, 11);
+        ShipSkins two = drops(2);
+        two.look(0, 11, 1, 1, 3, 0);
+        two.look(0, 21, 1, 1, 4, 0);
+        hides("days 11 and 21 are 0 and not 1", two, 0, 7, 11, 21);
+        ShipSkins none = resting();
+        none.look(0, 0, 0, 0, 7, 0);
+        none.look(0, 5, 50, 50, 7, 0);
+        none.look(0, 6, 0, 0, 100, 0);
+        hides("day 0 can be 0", none, 1, 1, 6);
+    }
+
+    static void p27_byTheLawOfTheDayAhead() {
+        ShipSkins x = resting();
+        x.leg(0, 10, 1, 0, 0, 0);
+        x.table(0, 0, 1, 2);
+        x.table(0, 1, 5, 9);
+        x.look(0, 9, 0, 0, 1, 0);
+        x.look(0, 10, 200, 200, 100, 0);
+        x.look(0, 11, 300, 300, 1, 0);
+        due("198 and 91", x.miss(0, 0), 198 + 91);
+        due("day 9", x.curve(9), 198);
+        due("day 10", x.curve(10), 200);
+        due("day 11", x.curve(11), 209);
+    }
+
+    static void p27_cleanedOnTheFirstAndTheLastDay() {
+        for (int day : new int[] {0, 1, 118, 119}) {
+            ShipSkins x = resting();
+            x.cleaned(0, day, 30);
+            x.look(0, day, 50, 60, 2, 0);
+            due("missed by 20", x.miss(0, 0), 40);
+            due("as much as was left", x.curve(day), 30);
+        }
+    }
+
+    static void p27_nothingIsLeftOfAnother() {
+        ShipSkins x = resting();
+        x.ship(0);
+        for (int day : new int[] {0, 60, 119}) {
+            x.look(0, day, 0, 0, 1, 0);
+            x.look(0, day, 100, 100, 1, 0);
+        }
+        due("three are missed by 100", x.miss(0, 0), 300);
+        due("nothing is missed by the other", x.miss(1, 0), 0);
+        due("its curve", x.curve(119), 0);
+    }
+
+    static void p27_allOf24EachAtItsOwnPlace() {
+        int[] froms = new int[24];
+        int[] worths = new int[24];
+        for (int n = 0; n < 24; n++) {
+            froms[n] = 7 + n * 37 % 24 * 40;
+            worths[n] = 1 + n * n * 31 % 100;
+        }
+        for (int apart : new int[] {0, 1, 5}) {
+            ShipSkins x = resting();
+            x.table(0, 0, 0, 0);
+            for (int n = 0; n < 24; n++) x.look(0, n * apart, froms[n], froms[n] + 13, worths[n], 0);
+            int best = 0;
+            for (int z = 0; z <= 1000; z++) {
+                if (missOf(froms, worths, z) < missOf(froms, worths, best)) best = z;
+            }
+            due("the least miss", x.miss(0, 0), missOf(froms, worths, best));
+            due("the lowest Z with it", x.curve(60), best);
+            hides("two cleanings are too dear", x, 100000, missOf(froms, worths, best));
+        }
+    }
+
+    private static int missOf(int[] froms, int[] worths, int z) {
+        int all = 0;
+        for (int n = 0; n < froms.length; n++) {
+            all += worths[n] * Math.max(0, Math.max(froms[n] - z, z - froms[n] - 13));
+        }
+        return all;
+    }
+
+    static void p29_byTheLawOfTheDayAhead() {
+        ShipSkins x = resting();
+        x.table(0, 0, 1, 2);
+        x.table(0, 3, 50, 60);
+        x.table(0, 1, 5, 9);
+        x.table(0, 2, 0, 1);
+        x.leg(0, 9, 3, 0, 0, 0);
+        x.leg(0, 10, 1, 0, 0, 0);
+        x.leg(0, 11, 2, 0, 0, 0);
+        x.look(0, 8, 490, 490, 100, 0);
+        x.look(0, 9, 500, 500, 1, 0);
+        x.look(0, 10, 0, 0, 100, 0);
+        x.look(0, 11, 20, 20, 1, 0);
+        hides("day 9 is 492, day 11 is 9", x, 1, 8 + 11 + 1, 10);
+        x.look(0, 12, 0, 0, 100, 0);
+        hides("day 12, too", x, 1, 8 + 11 + 2, 10, 12);
+    }
+
+    static void p32_roomAgainOnTheFirstAndTheLastDay() {
+        ShipSkins x = calling(0, 119);
+        x.clear();
+        due("a call that was", x.judge(0, 0, 0, 0, 0), 100);
+        due("day 119 again", x.call(119), 1);
+        due("day 0 again", x.call(0), 2);
+        due("day 0 is the second now", x.judge(0, 2, 0, 0, 0), 100 * 1);
+        due("and not the first", x.judge(0, 1, 119, 119, 0), 100);
+    }
 }

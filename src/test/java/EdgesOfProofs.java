@@ -325,4 +325,40 @@ final class EdgesOfProofs extends Edges {
         same("the second", proofOf(x), "[1,3;]");
         due("nothing is left of the first", x.proof(6), -1);
     }
+
+
+    static void p00_boundHasTheLastLogToo() {
+        ShipSkins x = resting();
+        x.look(0, 0, 0, 10, 1, 0);
+        x.look(0, 0, 25, 40, 1, 0);
+        x.look(0, 0, 15, 30, 1, 0);
+        for (int n = 3; n < 23; n++) x.leave(x.look(0, 0, 500, 500, 1, 0), 1);
+        due("the last", x.look(0, 0, 5, 20, 1, 0), 23);
+        proofIs("log 23 is in a group of its own at first", x, "(0[][1,23;])");
+    }
+
+    static void p00_rightOfTheLastLog() {
+        ShipSkins x = resting();
+        for (int n = 0; n < 22; n++) x.leave(x.look(0, 0, 500, 500, 100, 0), 1);
+        x.look(0, 0, 0, 0, 7, 0);
+        due("the last", x.look(0, 0, 9, 9, 8, 0), 23);
+        rightIs("it is worth more", x, 8, 23);
+        proofIs("22 and 23", x, "[22,23;]");
+        ShipSkins y = resting();
+        for (int n = 0; n < 22; n++) y.leave(y.look(0, 0, 500, 500, 100, 0), 1);
+        y.look(0, 0, 0, 0, 8, 0);
+        y.look(0, 0, 9, 9, 8, 0);
+        rightIs("it is worth as much", y, 8, 22);
+    }
+
+    static void p00_moreLogsCountMoreThanLowerOnes() {
+        ShipSkins x = resting();
+        for (int n = 0; n < 2; n++) x.look(0, 0, 0, 0, 3, 0);
+        for (int n = 2; n < 5; n++) x.look(0, 0, 9, 9, 2, 0);
+        rightIs("0 and 1 against 2, 3 and 4", x, 6, 2, 3, 4);
+        ShipSkins y = resting();
+        for (int n = 0; n < 11; n++) y.look(0, 0, 0, 0, 12, 0);
+        for (int n = 11; n < 23; n++) y.look(0, 0, 9, 9, 11, 0);
+        rightIs("eleven of 12 against twelve of 11", y, 132, 11, 12, 13, 14, 15, 16, 17, 18, 19, 20, 21, 22);
+    }
 }

@@ -251,7 +251,7 @@ final class EdgesOfSeals extends Edges {
         ShipSkins x = full();
         String all = seen(full());
         due("kept", x.image(1), 0);
-        x.alter(0, 1);
+        x.alter(0, 4);
         x.leave(1, 1);
         x.table(0, 0, 5, 5);
         x.terms(9, 9);
@@ -413,6 +413,105 @@ final class EdgesOfSeals extends Edges {
             x.cleaned(0, 60, 0);
             others[i].on(x);
             due("behind one that was refused, call " + i, x.status(), -4);
+        }
+    }
+
+
+    /** All ships, tables, legs and cleanings that there can be, in one of two ways. */
+    private static void tellLegs(ShipSkins x, int way) {
+        for (int n = 0; n < 3; n++) x.ship(100 * way + 10 * n);
+        for (int sea = 0; sea < 6; sea++) x.table(0, sea, -way - sea, 20 * way + sea);
+        for (int pace = 0; pace < 4; pace++) x.table(1, pace, -10 * way - pace, way + pace);
+        for (int n = 0; n < 60; n++) {
+            int speed = n % 2 == 0 ? 0 : (n + way) % 30 + 1;
+            x.leg(legShip(n, way), legDay(n, way), (n / 2 + way) % 6, speed, n * way % 21, (n + 50 * way) % 101);
+        }
+        for (int n = 0; n < 40; n++) due("cleaned", x.cleaned((n + way) % 3, cleanDay(n, way), 10 * n + way), n + 1);
+    }
+
+    private static int legShip(int n, int way) {
+        return (n + way) % 3;
+    }
+
+    private static int legDay(int n, int way) {
+        return way == 1 ? n + 30 : 110 - n;
+    }
+
+    private static int cleanDay(int n, int way) {
+        return way == 1 ? 3 * n : 119 - 3 * n;
+    }
+
+    private static String seenLegs(ShipSkins x, int way) {
+        StringBuilder all = new StringBuilder();
+        for (int n = 0; n < 60; n++) {
+            int ship = legShip(n, way);
+            int day = legDay(n, way);
+            all.append(x.share(ship, day, 100, 4)).append(' ').append(x.law(ship, day, 0)).append(' ');
+            all.append(x.law(ship, day, 1)).append(' ');
+        }
+        for (int n = 0; n < 40; n++) all.append(x.span((n + way) % 3, cleanDay(n, way), 0, 1)).append(' ');
+        return all.toString();
+    }
+
+    static void p39_allShipsTablesLegsAndCleaningsAreAsThen() {
+        for (int way = 1; way <= 2; way++) {
+            ShipSkins x = new ShipSkins();
+            x.image(0);
+            tellLegs(x, way);
+            x.image(1);
+            x.back(0);
+            tellLegs(x, 3 - way);
+            due("back", x.back(1), 0);
+            ShipSkins y = new ShipSkins();
+            tellLegs(y, way);
+            same("all is as then", seenLegs(x, way), seenLegs(y, way));
+        }
+    }
+
+    /** All logs that there can be, in one of two ways. */
+    private static void tellLogs(ShipSkins x, int way) {
+        for (int n = 0; n < 3; n++) {
+            x.ship(n);
+            x.leg(n, 0, 0, 10, 0, 0);
+        }
+        x.terms(way, 10 * way);
+        for (int n = 0; n < 24; n++) {
+            int ship = (n + way) % 3;
+            int day = (5 * n + way) % 120;
+            int worth = 1 + n * way;
+            int known = (3 * n + way) % 120;
+            int number = 10 * n + 100 * way;
+            due("its number", (n + way) % 2 == 0 ? x.log(ship, day, number, n + way, worth, known)
+                : x.look(ship, day, number, 600 + 10 * n + way, worth, known), n);
+            x.leave(n, (n / 2 + way) % 2);
+        }
+        x.seal();
+        x.alter(4 * way, 8 * way);
+    }
+
+    private static String seenLogs(ShipSkins x) {
+        StringBuilder all = new StringBuilder();
+        for (int n = 0; n < 24; n++) {
+            for (int what = 0; what < 7; what++) all.append(x.of(n, what)).append(' ');
+        }
+        all.append("found ").append(x.found()).append(" terms ").append(x.judge(0, 1, 0, 5, 0));
+        return all.toString();
+    }
+
+    static void p39_allLogsTermsAndTheSealAreAsThen() {
+        for (int way = 1; way <= 2; way++) {
+            ShipSkins x = new ShipSkins();
+            x.call(2);
+            x.image(0);
+            tellLogs(x, way);
+            x.image(1);
+            x.back(0);
+            tellLogs(x, 3 - way);
+            due("back", x.back(1), 0);
+            ShipSkins y = new ShipSkins();
+            y.call(2);
+            tellLogs(y, way);
+            same("all is as then", seenLogs(x), seenLogs(y));
         }
     }
 }

@@ -397,4 +397,43 @@ final class EdgesOfSpans extends Edges {
         due("the other with it", x.quarrel(1, 0), 0);
         due("it with itself", x.quarrel(0, 0), 1);
     }
+
+
+    static void p13_noneByTheFirstOrTheLastDayAlone() {
+        for (int day : new int[] {0, 119}) {
+            ShipSkins x = resting();
+            x.cleaned(0, day, 5);
+            x.look(0, day, 5, 9, 1, 0);
+            x.look(0, day, 6, 9, 1, 1);
+            due("at its end", x.span(0, day, 0, 0), 5);
+            due("behind its end, of that day", x.span(0, day, 1, 0), -1);
+            due("behind its end, of another day", x.span(0, 60, 1, 0), -1);
+        }
+    }
+
+    static void p13_theLawOfADayLeadsToTheNext() {
+        ShipSkins x = resting();
+        x.leg(0, 10, 1, 0, 0, 0);
+        x.table(0, 0, 1, 2);
+        x.table(0, 1, 5, 9);
+        x.look(0, 10, 200, 200, 1, 0);
+        due("the least of day 9", x.span(0, 9, 0, 0), 198);
+        due("the greatest of day 9", x.span(0, 9, 0, 1), 199);
+        due("the least of day 11", x.span(0, 11, 0, 0), 205);
+        due("the greatest of day 11", x.span(0, 11, 0, 1), 209);
+        x.look(0, 9, 198, 198, 1, 1);
+        due("the greatest of day 11 by day 10 as by day 9", x.span(0, 11, 1, 1), 209);
+        x.leave(0, 1);
+        due("the least of day 11 by day 9", x.span(0, 11, 1, 0), 198 + 1 + 5);
+        due("the greatest of day 11 by day 9", x.span(0, 11, 1, 1), 198 + 2 + 9);
+        due("the least of day 8 by day 9", x.span(0, 8, 1, 0), 196);
+    }
+
+    static void p16_ofTwoDays() {
+        ShipSkins x = resting();
+        x.look(0, 50, 300, 400, 1, 0);
+        due("the second is wider", x.widest(0, 50, 51, 0), 51);
+        due("the first is wider", x.widest(0, 49, 50, 0), 49);
+        due("alike", x.widest(0, 0, 1, 0), 0);
+    }
 }
