@@ -429,4 +429,23 @@ final class EdgesOfChecks extends Edges {
         checks(path(), " ".repeat(399) + "x", 9, 399);
         checks(path(), " ".repeat(400), 9, 400);
     }
+
+    static void p24_aNumberThatIsCutShort() {
+        ShipSkins x = friends();
+        put(x, "[12;]");
+        x.end(2);
+        due("no proof", x.check(0, 0, 24), 0);
+        due("1 is open, and then it ends", x.fault(), 2);
+        put(x, "[12;]");
+        x.end(3);
+        due("no proof", x.check(0, 0, 24), 0);
+        due("12 is open, and then it ends", x.fault(), 3);
+    }
+
+    static void p25_aNumberAtTheEndOfAFullTape() {
+        checks(friends(), "[" + " ".repeat(398) + "1", 24, 400);
+        checks(friends(), "[" + " ".repeat(397) + "24", 24, 398);
+        checks(friends(), "[" + "0".repeat(399), 24, 400);
+        checks(friends(), "9".repeat(400), 24, 0);
+    }
 }

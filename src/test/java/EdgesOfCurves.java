@@ -564,6 +564,13 @@ final class EdgesOfCurves extends Edges {
         due("nothing is missed", y.miss(0, 0), 0);
         due("1000 ahead of a day cleaned on", y.curve(49), 1000);
         due("1000 on it", y.curve(50), 1000);
+        ShipSkins z = resting();
+        z.table(0, 0, -5, -5);
+        z.cleaned(0, 50, 1000);
+        z.look(0, 48, 4, 4, 1, 0);
+        due("day 49 is 0 at least, so day 48 is 5", z.miss(0, 0), 1);
+        due("day 48", z.curve(48), 5);
+        due("day 49", z.curve(49), 0);
     }
 
     static void p00_hiddenWithTwoOfTheFirstAndTheLastDays() {
@@ -593,6 +600,35 @@ final class EdgesOfCurves extends Edges {
         hides("day 0 can be 0", none, 1, 1, 6);
     }
 
+    static void p00_hiddenBesideDaysToldSo() {
+        ShipSkins x = resting();
+        x.cleaned(0, 20, 100);
+        x.look(0, 20, 0, 0, 5, 0);
+        x.look(0, 29, 90, 90, 5, 0);
+        x.look(0, 30, 0, 0, 100, 0);
+        hides("day 20 can be 0", x, 1, 1, 30);
+        ShipSkins y = resting();
+        y.cleaned(0, 20, 100);
+        y.look(0, 20, 101, 101, 5, 0);
+        y.look(0, 29, 150, 150, 5, 0);
+        y.look(0, 30, 0, 0, 100, 0);
+        hides("day 20 can be 100 at most", y, 1, 5 + 1, 30);
+    }
+
+    static void p00_zIs0AtLeastBesideHiddenDays() {
+        for (int first : new int[] {0, 20}) {
+            ShipSkins x = resting();
+            x.table(0, 0, 5, 5);
+            if (first > 0) x.cleaned(0, first, 100);
+            x.look(0, first + 1, 4, 4, 1, 0);
+            x.look(0, first + 10, 0, 0, 100, 0);
+            hides("0 and 5 a day", x, 1, 1 + 1, first + 10);
+            x.look(0, first + 11, 4, 4, 1, 0);
+            x.look(0, first + 12, 0, 0, 100, 0);
+            hides("0 and 5 a day, twice", x, 1, 1 + 1 + 2, first + 10, first + 12);
+        }
+    }
+
     static void p27_byTheLawOfTheDayAhead() {
         ShipSkins x = resting();
         x.leg(0, 10, 1, 0, 0, 0);
@@ -605,6 +641,14 @@ final class EdgesOfCurves extends Edges {
         due("day 9", x.curve(9), 198);
         due("day 10", x.curve(10), 200);
         due("day 11", x.curve(11), 209);
+        x.leg(0, 11, 2, 0, 0, 0);
+        x.table(0, 2, 7, 7);
+        due("198 and 91", x.miss(0, 0), 198 + 91);
+        due("day 11 by HIGH", x.curve(11), 209);
+        x.look(0, 11, 0, 0, 2, 0);
+        due("198 and 95 and 2 times 205", x.miss(0, 0), 198 + 95 + 2 * 205);
+        due("day 11 by LOW", x.curve(11), 205);
+        due("day 12", x.curve(12), 212);
     }
 
     static void p27_cleanedOnTheFirstAndTheLastDay() {
@@ -658,22 +702,31 @@ final class EdgesOfCurves extends Edges {
         return all;
     }
 
-    static void p29_byTheLawOfTheDayAhead() {
+    /** The laws of days 8, 9, 10 and 11 are unlike one another; days 9 and 11 were seen as told, the others as can be. */
+    private static ShipSkins unlikeLaws(int onDay9, int onDay11) {
         ShipSkins x = resting();
         x.table(0, 0, 1, 2);
         x.table(0, 3, 50, 60);
         x.table(0, 1, 5, 9);
-        x.table(0, 2, 0, 1);
+        x.table(0, 2, 1, 1);
         x.leg(0, 9, 3, 0, 0, 0);
         x.leg(0, 10, 1, 0, 0, 0);
         x.leg(0, 11, 2, 0, 0, 0);
         x.look(0, 8, 490, 490, 100, 0);
-        x.look(0, 9, 500, 500, 1, 0);
+        x.look(0, 9, onDay9, onDay9, 1, 0);
         x.look(0, 10, 0, 0, 100, 0);
-        x.look(0, 11, 20, 20, 1, 0);
-        hides("day 9 is 492, day 11 is 9", x, 1, 8 + 11 + 1, 10);
-        x.look(0, 12, 0, 0, 100, 0);
-        hides("day 12, too", x, 1, 8 + 11 + 2, 10, 12);
+        x.look(0, 11, onDay11, onDay11, 1, 0);
+        return x;
+    }
+
+    static void p29_byTheLawOfTheDayAhead() {
+        ShipSkins high = unlikeLaws(500, 20);
+        hides("by HIGH day 9 is 492, day 11 is 9", high, 1, 8 + 11 + 1, 10);
+        high.look(0, 12, 0, 0, 100, 0);
+        hides("day 12, too", high, 1, 8 + 11 + 2, 10, 12);
+        ShipSkins low = unlikeLaws(480, 0);
+        low.look(0, 12, 0, 0, 100, 0);
+        hides("by LOW day 9 is 491, day 11 is 5", low, 1, 11 + 5 + 2, 10, 12);
     }
 
     static void p32_roomAgainOnTheFirstAndTheLastDay() {

@@ -349,6 +349,13 @@ final class EdgesOfProofs extends Edges {
         y.look(0, 0, 0, 0, 8, 0);
         y.look(0, 0, 9, 9, 8, 0);
         rightIs("it is worth as much", y, 8, 22);
+        ShipSkins z = resting();
+        z.look(0, 0, 0, 10, 5, 0);
+        z.look(0, 0, 25, 40, 3, 0);
+        z.look(0, 0, 15, 30, 3, 0);
+        for (int n = 3; n < 23; n++) z.leave(z.look(0, 0, 500, 500, 100, 0), 1);
+        z.look(0, 0, 5, 20, 2, 0);
+        rightIs("0 and 23 against 1 and 2", z, 7, 0, 23);
     }
 
     static void p00_moreLogsCountMoreThanLowerOnes() {

@@ -423,7 +423,7 @@ final class EdgesOfSeals extends Edges {
         for (int sea = 0; sea < 6; sea++) x.table(0, sea, -way - sea, 20 * way + sea);
         for (int pace = 0; pace < 4; pace++) x.table(1, pace, -10 * way - pace, way + pace);
         for (int n = 0; n < 60; n++) {
-            int speed = n % 2 == 0 ? 0 : (n + way) % 30 + 1;
+            int speed = n % 3 == 1 ? (n + way) % 30 + 1 : 0;
             x.leg(legShip(n, way), legDay(n, way), (n / 2 + way) % 6, speed, n * way % 21, (n + 50 * way) % 101);
         }
         for (int n = 0; n < 40; n++) due("cleaned", x.cleaned((n + way) % 3, cleanDay(n, way), 10 * n + way), n + 1);
