@@ -217,6 +217,21 @@ final class EdgesOfChecks extends Edges {
         checks(path(), "[0,1]", 9, 4);
     }
 
+    static void p00_faultAtTheEndOfAGroup() {
+        for (int w : new int[] {9, 2400, Integer.MAX_VALUE}) {
+            checks(path(), "[0,]", w, 3);
+            checks(path(), "[0,1;2,]", w, 7);
+            checks(path(), "[0,1,]", w, 5);
+            checks(path(), "[0 ]", w, 3);
+            checks(path(), "[0;,]", w, 3);
+            checks(path(), "[4]", w, 1);
+            checks(path(), "[0;0]", w, 3);
+            checks(path(), "[0)", w, 2);
+            checks(path(), "[0;)", w, 3);
+            checks(path(), "(0[][0,]", w, 5);
+        }
+    }
+
     static void p00_faultBehindAWholeProof() {
         checks(path(), "[]]", 9, 2);
         checks(path(), "[] 0", 9, 3);

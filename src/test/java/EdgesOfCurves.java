@@ -738,4 +738,115 @@ final class EdgesOfCurves extends Edges {
         due("day 0 is the second now", x.judge(0, 2, 0, 0, 0), 100 * 1);
         due("and not the first", x.judge(0, 1, 119, 119, 0), 100);
     }
+
+    static void p00_missIs0WithinWhatItIsReadAs() {
+        ShipSkins x = resting();
+        x.table(0, 0, -5, -5);
+        x.look(0, 60, 0, 1000, 7, 0);
+        due("the least that can be is within it", x.miss(0, 0), 0);
+        due("it", x.curve(60), 5 * 59);
+        ShipSkins y = sailing();
+        y.look(0, 60, 0, 1000, 7, 0);
+        y.look(0, 60, 301, 999, 7, 0);
+        hides("the least that can be is within both but for 1", y, 9, 0);
+        y.look(0, 61, 0, 0, 100, 0);
+        hides("300 at least ahead of a hidden day", y, 9, 9, 61);
+    }
+
+    static void p00_missOfWorthsThatDifferBy1() {
+        ShipSkins x = resting();
+        x.look(0, 10, 100, 100, 1, 0);
+        x.look(0, 10, 200, 300, 2, 0);
+        x.look(0, 9, 200, 200, 5, 0);
+        due("100 is missed by 100", x.miss(0, 0), 100);
+        due("day 9", x.curve(9), 200);
+        due("day 10", x.curve(10), 200);
+        ShipSkins y = resting();
+        y.look(0, 9, 100, 100, 1, 0);
+        y.look(0, 9, 200, 300, 2, 0);
+        y.look(0, 10, 210, 210, 5, 0);
+        y.look(0, 11, 0, 0, 100, 0);
+        hides("100 is missed by 100 ahead of a hidden day", y, 1, 100 + 1, 11);
+    }
+
+    static void p00_missFarFromWhatWasLeft() {
+        ShipSkins x = resting();
+        x.cleaned(0, 9, 500);
+        x.look(0, 10, 900, 900, 1, 0);
+        due("510 at most", x.miss(0, 0), 390);
+        due("the day ahead of the one cleaned on", x.curve(8), 0);
+        due("as much as was left", x.curve(9), 500);
+        due("10 more", x.curve(10), 510);
+    }
+
+    static void p00_missFarFromTheGreatestZ() {
+        ShipSkins x = resting();
+        x.table(0, 1, -20, -20);
+        x.leg(0, 9, 1, 0, 0, 0);
+        x.leg(0, 10, 0, 0, 0, 0);
+        x.look(0, 10, 990, 990, 3, 0);
+        due("day 9 is 1000 at most", x.miss(0, 0), 30);
+        due("day 9", x.curve(9), 1000);
+        due("day 10", x.curve(10), 980);
+        ShipSkins y = resting();
+        y.table(0, 1, 20, 20);
+        y.leg(0, 10, 1, 0, 0, 0);
+        y.leg(0, 11, 0, 0, 0, 0);
+        y.look(0, 10, 990, 990, 3, 0);
+        y.look(0, 11, 1000, 1000, 100, 0);
+        y.look(0, 12, 0, 0, 100, 0);
+        hides("day 11 is 1000 at most", y, 1, 30 + 1, 12);
+    }
+
+    static void p00_missOfMoreThanOneBelowTheLeastZ() {
+        int all = 3 * 645 + 7 * 350 + 2 * 50;
+        ShipSkins x = resting();
+        tellThree(x, 10);
+        x.look(0, 9, 650, 650, 100, 0);
+        due("all of day 10 are missed", x.miss(0, 0), all);
+        due("day 10", x.curve(10), 650);
+        ShipSkins y = resting();
+        y.table(0, 1, -10, 0);
+        y.leg(0, 9, 1, 0, 0, 0);
+        y.leg(0, 10, 0, 0, 0, 0);
+        tellThree(y, 9);
+        y.look(0, 10, 650, 650, 100, 0);
+        y.look(0, 11, 0, 0, 100, 0);
+        hides("all of day 9 are missed ahead of a hidden day", y, 1, all + 1, 11);
+    }
+
+    /** By a law of 10 a day the first of them is below 0 on the day beside. */
+    private static void tellThree(ShipSkins x, int day) {
+        x.look(0, day, 5, 5, 3, 0);
+        x.look(0, day, 300, 300, 7, 0);
+        x.look(0, day, 600, 600, 2, 0);
+    }
+
+    static void p00_zIs0OnTheFirstOfTwoHiddenDays() {
+        ShipSkins x = resting();
+        x.table(0, 0, 5, 5);
+        x.look(0, 9, 500, 500, 100, 0);
+        x.look(0, 11, 4, 4, 1, 0);
+        x.look(0, 12, 0, 0, 100, 0);
+        hides("day 10 is 0, so day 11 is 5", x, 1, 1 + 2, 10, 12);
+        ShipSkins y = resting();
+        y.table(0, 0, 5, 5);
+        y.look(0, 9, 500, 500, 100, 0);
+        y.look(0, 11, 6, 6, 1, 0);
+        y.look(0, 12, 0, 0, 100, 0);
+        hides("day 10 is no more than 0, too", y, 1, 1 + 2, 10, 12);
+    }
+
+    static void p00_worstOfTheFirstDayIsTheGreatestOfItsSpan() {
+        ShipSkins x = sailing();
+        x.cleaned(0, 5, 50);
+        x.look(0, 5, 10, 20, 1, 0);
+        due("on a day cleaned on, too", x.judge(0, 0, 5, 5, 0), 20);
+        due("it rises from it", x.judge(0, 0, 5, 6, 0), 20 + 28);
+        due("behind the first day it is what was left", x.judge(0, 0, 4, 5, 0), 1000 + 50);
+        x.call(5);
+        x.terms(1, 20);
+        due("a call is not below 20", x.plan(0, 5, 5, 0), 0);
+        due("a call is below 50", x.plan(0, 4, 5, 0), 1);
+    }
 }

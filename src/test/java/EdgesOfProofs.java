@@ -368,4 +368,35 @@ final class EdgesOfProofs extends Edges {
         for (int n = 11; n < 23; n++) y.look(0, 0, 9, 9, 11, 0);
         rightIs("eleven of 12 against twelve of 11", y, 132, 11, 12, 13, 14, 15, 16, 17, 18, 19, 20, 21, 22);
     }
+
+    static void p00_rightOfTheLastTwoLogs() {
+        ShipSkins x = resting();
+        x.look(0, 0, 90, 110, 9, 0);
+        x.look(0, 0, 0, 10, 1, 0);
+        x.look(0, 0, 5, 15, 1, 0);
+        for (int n = 3; n < 22; n++) x.leave(x.look(0, 0, 500, 500, 100, 0), 1);
+        x.look(0, 0, 0, 100, 5, 0);
+        x.look(0, 0, 105, 120, 5, 0);
+        rightIs("0 and 22 against 0 and 23, which has the most quarrels", x, 14, 0, 22);
+        x.leave(22, 1);
+        rightIs("without 22", x, 14, 0, 23);
+    }
+
+    /** From, how far, and worth of looks on day 0 whose proof parts one log after another, until two are left. */
+    private static final int[] DEEP = {
+        385, 21, 69, 31, 6, 61, 601, 180, 51, 394, 15, 22, 387, 5, 84, 453, 70, 59, 822, 67, 34, 957, 12, 5,
+        111, 124, 83, 341, 39, 90, 617, 91, 26, 45, 121, 45, 409, 89, 49, 331, 4, 50, 502, 4, 48, 302, 74, 75,
+        58, 40, 46, 233, 20, 82, 719, 42, 81, 275, 22, 57, 431, 0, 60, 805, 101, 16, 927, 8, 27, 912, 45, 89};
+
+    static void p00_aProofAsDeepAsCanBe() {
+        ShipSkins x = resting();
+        for (int i = 0; i < DEEP.length; i += 3) x.look(0, 0, DEEP[i], DEEP[i] + DEEP[i + 1], DEEP[i + 2], 0);
+        int[] picks = {1, 19, 4, 0, 3, 6, 21, 7, 9, 10, 2, 18, 13, 15, 14, 5, 12, 20, 16, 11, 8, 17};
+        StringBuilder want = new StringBuilder();
+        for (int pick : picks) want.append('(').append(pick).append("[]");
+        proofIs("22 logs are picked", x, want + "[]" + ")".repeat(22));
+        rightIs("8 and 17 are worth as much as 9 and 15, which are tried first", x, 165, 8, 17);
+        checks(x, proofOf(x), 165, -1);
+        checks(x, proofOf(x), 164, want.indexOf("(9[]") + 3);
+    }
 }

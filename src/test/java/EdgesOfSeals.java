@@ -514,4 +514,29 @@ final class EdgesOfSeals extends Edges {
             same("all is as then", seenLogs(x), seenLogs(y));
         }
     }
+
+    static void p00_foundByFuelAsMuchAsCanBe() {
+        for (int log = 0; log < 2; log++) {
+            ShipSkins x = underWay(0, 10, 0, 0);
+            x.log(0, 0, 100000, 0, 1, 0);
+            x.log(0, 0, 0, 0, 1, 0);
+            x.seal();
+            x.alter(log, 255);
+            due("log " + log, x.found(), log);
+        }
+    }
+
+    static void p00_foundWhatSetsBothRightThoughItWasNotAltered() {
+        for (int number : new int[] {0, 1000}) {
+            ShipSkins x = resting();
+            int other = number == 0 ? 0 : 4;
+            x.look(0, 0, other, 1000, 1, 0);
+            x.look(0, 0, number, 1000, 1, 0);
+            x.look(0, 0, other, 1000, 1, 0);
+            x.seal();
+            x.alter(0, 4);
+            x.alter(2, 4);
+            due("off by 8 and 16, as log 1 would be", x.found(), 1);
+        }
+    }
 }

@@ -274,4 +274,8 @@ final class EdgesOfTerms extends Edges {
         refuses("back: an image that can't be", Edges::some, x -> x.back(2), -1);
         refuses("back: an image that was not kept", Edges::some, x -> x.back(1), -2);
     }
+
+    static void p00_noneIsMinus1() {
+        due("NONE", ShipSkins.NONE, -1);
+    }
 }
